@@ -66,6 +66,7 @@ public final class PromiseTest {
         for (int bad : new int[] {0, 9, -1, LEAST, MOST}) {
             due("setLength(" + bad + ")", x.setLength(bad), -2);
         }
+        dueErrors(x, 5, 0, 0, 0, 0);
         dueRows(x, 63);
         due("setLength(1)", x.setLength(1), 6);
         dueRows(x);
@@ -110,6 +111,7 @@ public final class PromiseTest {
         for (int bad : new int[] {6, -1, LEAST, MOST}) {
             due("removeRow(" + bad + ")", x.removeRow(bad), -2);
         }
+        dueErrors(x, 4, 0, 0, 0, 0);
         due("removeRow(1)", x.removeRow(1), 5);
         dueRows(x, 1, 3, -4, 5, -6);
         due("removeRow(4)", x.removeRow(4), 4);
@@ -353,6 +355,7 @@ public final class PromiseTest {
         dueErrors(x, 4, 0, 0, 0, 0);
         due("worstSet(2), none leaks", coder(8, 255).worstSet(2), 3);
         due("worstSet(8)", coder(8, 255).worstSet(8), 255);
+        due("worstSet(1), six bits stay hidden", coder(7, 65, 66, 68, 72, 80, 96).worstSet(1), 1);
     }
 
     private static void promise21Threshold() {
@@ -361,6 +364,7 @@ public final class PromiseTest {
         due("threshold()", coder(6, 63).threshold(), 5);
         due("threshold()", coder(6, 7, 56).threshold(), 2);
         due("threshold()", coder(6, 63, 1).threshold(), 0);
+        due("threshold(), all but one of eight", coder(8, 255).threshold(), 7);
         due("threshold() of a checked row", coder(8, -255, 255).threshold(), 8);
         due("threshold(), position 5 betrays position 0", coder(6, 1, -33).threshold(), 0);
     }
@@ -377,6 +381,7 @@ public final class PromiseTest {
         }
         dueErrors(x, 5, 0, 0, 0, 0);
         due("leastSize(6)", coder(8, 1, 2, 4, 8, 16, 192).leastSize(6), 7);
+        due("leastSize(1), all eight", coder(8, 255).leastSize(1), 8);
         due("leastSize(1) where sizes leap", coder(3, 3, 5).leastSize(1), 2);
         due("leastSize(2) where sizes leap", coder(3, 3, 5).leastSize(2), 3);
     }

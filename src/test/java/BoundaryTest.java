@@ -1166,6 +1166,7 @@ public final class BoundaryTest {
         due("worstSet(3) where nothing leaks", new CosetCoder().worstSet(3), 7);
         due("worstSet(3) where no three leak", coder(8, 255).worstSet(3), 7);
         due("worstSet(2)", coder(8, 192, 160).worstSet(2), 96);
+        due("worstSet(1) where all six bits stay hidden", coder(7, 65, 66, 68, 72, 80, 96).worstSet(1), 1);
     }
 
     private static void theGreatestNumberMayBeTheOnlyWorstSet() {

@@ -1817,29 +1817,6 @@ public final class BoundaryTest {
         sentence(28, UNDOABLE + " [another method]", BoundaryTest::theDigestChangesNothing);
     }
 
-    // ---- the examples of the document that end in a refused call
-
-    private static void exampleOfSeveralCodewords() {
-        CosetCoder x = new CosetCoder();
-        due("setLength(2)", x.setLength(2), 6);
-        due("addRow(3, 0)", x.addRow(3, 0), 0);
-        due("decode(1)", x.decode(1), 1);
-        due("encode(1, 1)", x.encode(1, 1), 2);
-        due("encode(1, 2)", x.encode(1, 2), -3);
-    }
-
-    private static void exampleOfErrors() {
-        CosetCoder x = new CosetCoder();
-        due("addRow(0, 0)", x.addRow(0, 0), -2);
-        due("addRow(64, 0)", x.addRow(64, 0), -2);
-        due("undo()", x.undo(), -6);
-    }
-
-    private static void examples() {
-        sentence(14, "3. Encoding with several codewords", BoundaryTest::exampleOfSeveralCodewords);
-        sentence(3, "5. Errors", BoundaryTest::exampleOfErrors);
-    }
-
     private static void everyPromiseHasATest() {
         for (int promise = 1; promise <= PROMISES; promise++) {
             place = "promise " + promise;
@@ -1871,7 +1848,6 @@ public final class BoundaryTest {
         promise26();
         promise27();
         promise28();
-        examples();
         everyPromiseHasATest();
         if (wrong > 0) {
             System.exit(1);

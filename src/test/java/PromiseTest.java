@@ -528,30 +528,6 @@ public final class PromiseTest {
             0, 0, 1, 1, 4));
     }
 
-    private static void examplesOfTheDocument() {
-        CosetCoder one = new CosetCoder();
-        due("addRow(63, 0)", one.addRow(63, 0), 0);
-        due("messages()", one.messages(), 2);
-        due("encode(1, 0)", one.encode(1, 0), 1);
-        due("message(7)", one.message(7), 1);
-        due("leakage(62)", one.leakage(62), 0);
-        due("leakage(63)", one.leakage(63), 1);
-        due("threshold()", one.threshold(), 5);
-        CosetCoder two = hamming();
-        due("codewords()", two.codewords(), 16);
-        due("decode(127)", two.decode(127), 1);
-        due("distance(127)", two.distance(127), 0);
-        due("weakness()", two.weakness(), 2);
-        CosetCoder three = coder(2, 3);
-        due("decode(1)", three.decode(1), 1);
-        due("encode(1, 1)", three.encode(1, 1), 2);
-        due("encode(1, 2)", three.encode(1, 2), -3);
-        CosetCoder four = coder(6, 7, 56, 63);
-        due("rank(0)", four.rank(0), 2);
-        due("removeDependentRows()", four.removeDependentRows(), 1);
-        due("messages()", four.messages(), 4);
-    }
-
     private static void in(String name) {
         place = name;
     }
@@ -613,8 +589,6 @@ public final class PromiseTest {
         promise27ErrorCount();
         in("promise 28");
         promise28Digest();
-        in("examples");
-        examplesOfTheDocument();
         if (wrong > 0) {
             System.exit(1);
         }
